@@ -255,7 +255,7 @@ public final class ShadowCount {
     /** Promise 22. */
     public int fits() {
         rows.prepare(sights);
-        return rows.ways(0, 0L);
+        return rows.number();
     }
 
     /** Promise 23. */
@@ -264,7 +264,7 @@ public final class ShadowCount {
         if (!rows.exist()) {
             return NONE;
         }
-        return most ? rows.most() : rows.fewest(0, 0L);
+        return most ? rows.mostHeads() : rows.fewestHeads();
     }
 
     /** Promise 24. */
@@ -915,25 +915,29 @@ public final class ShadowCount {
             return darkFrom[0] == wanted;
         }
 
+        int number() {
+            return waysToFill(this, 0, 0L);
+        }
+
         /** In how many ways columns from x on can be filled, if those ahead of it have made so much dark. */
-        int ways(int x, long dark) {
-            if (!isBelow(x, COLUMNS + 1) || (dark | darkFrom[x]) != wanted) {
+        private static int waysToFill(Fits rows, int x, long dark) {
+            if (!isBelow(x, COLUMNS + 1) || (dark | rows.darkFrom[x]) != rows.wanted) {
                 return 0;
             }
-            if (dark == wanted) {
-                return waysFrom[x];
+            if (dark == rows.wanted) {
+                return rows.waysFrom[x];
             }
-            int sum = ways(x + 1, dark);
-            if (x < COLUMNS && choices[x] >= CHILD_TOO) {
-                sum += ways(x + 1, dark | child[x]);
+            int sum = waysToFill(rows, x + 1, dark);
+            if (x < COLUMNS && rows.choices[x] >= CHILD_TOO) {
+                sum += waysToFill(rows, x + 1, dark | rows.child[x]);
             }
-            if (x < COLUMNS && choices[x] == MAN_TOO) {
-                sum += ways(x + 1, dark | man[x]);
+            if (x < COLUMNS && rows.choices[x] == MAN_TOO) {
+                sum += waysToFill(rows, x + 1, dark | rows.man[x]);
             }
             return sum;
         }
 
-        int most() {
+        int mostHeads() {
             int sum = 0;
             for (int x = 0; x < COLUMNS; x++) {
                 sum += choices[x] == NOBODY ? 0 : 1;
@@ -941,15 +945,20 @@ public final class ShadowCount {
             return sum;
         }
 
+        int fewestHeads() {
+            return fewestFrom(this, 0, 0L);
+        }
+
         /** How few from column x on make dark what is still wanted; more than there are columns, if none can. */
-        int fewest(int x, long dark) {
-            if (dark == wanted) {
+        private static int fewestFrom(Fits rows, int x, long dark) {
+            if (dark == rows.wanted) {
                 return 0;
             }
-            if (!isBelow(x, COLUMNS) || (dark | darkFrom[x]) != wanted) {
+            if (!isBelow(x, COLUMNS) || (dark | rows.darkFrom[x]) != rows.wanted) {
                 return COLUMNS + 1;
             }
-            return Math.min(fewest(x + 1, dark), 1 + fewest(x + 1, dark | tallest(x)));
+            int without = fewestFrom(rows, x + 1, dark);
+            return Math.min(without, 1 + fewestFrom(rows, x + 1, dark | rows.tallest(x)));
         }
 
         int surelyTaken() {

@@ -104,7 +104,9 @@ public final class PlaceTest {
         fault("GO00ag", 5);
         fault("GO0009", NONE);
         fault("G" + (char) 255, 1);
-        fault((char) (256 - 'G') + "", 0);
+        fault((char) (128 + 'G') + "", 0);
+        fault("G" + (char) (128 + 'B') + "m00", 1);
+        fault("GBm0" + (char) (128 + '0'), 4);
     }
 
     private static void faultOfBodies() {

@@ -61,6 +61,7 @@ public final class ShadowsTest {
         check.due("ahead of the cliff's minute", s.dark(4, 0), 0);
         check.due("at the cliff's minute", s.dark(5, 0), 0b0111100000);
         check.due("behind it", s.dark(6, 0), 0b0111000000);
+        check.due("long ahead of it, where the shadow is longest", s.dark(0, 0), 0);
         check.due("a cliff of minute 0", s.dark(0, 1), 511);
         check.due("a row without a cliff", s.dark(0, 2), 511);
         check.due("both are cliffs", s.count(7), 3);

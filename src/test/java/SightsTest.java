@@ -65,6 +65,12 @@ public final class SightsTest {
         check.due("two that do not agree", seen(9, 2, 9, 4).fits(), 0);
         check.due("the same twice", seen(9, 2, 9, 2).fits(), seen(9, 2).fits());
         check.due("a man in cell 0, children, one in cell 9", seen(9, 2).fits(), 256 * 3);
+        // at 10 a man in cell 0 makes 1 to 3 dark, or children in 0 to 2; cell 9 is free
+        check.due("a man in cell 0, or children", seen(10, 14).fits(), (4 + 1) * 3);
+        // only a man may stand in cell 2, children in 3 and 4; or children in 2, 3, 4
+        check.due("the same further east", seen(10, 0b111000).fits(), (4 + 1) * 3);
+        // one in cell 6: a man, and all may stand east of him; or a child, a man or child in 7, in 8 if need be
+        check.due("the last three cells", seen(10, 0b1110000000).fits(), 27 + 9 + 6);
         check.due("six sights", seen(0, 0, 1, 0, 2, 0, 3, 0, 4, 0, 5, 0).fits(), 3);
         check.due("six sights, the first tells", seen(8, 1, 0, 0, 0, 0, 0, 0, 0, 0, 0, 0).fits(), 0);
         check.due("six sights, the last tells", seen(0, 0, 0, 0, 0, 0, 0, 0, 0, 0, 8, 1).fits(), 0);
@@ -84,6 +90,10 @@ public final class SightsTest {
         check.due("ten", seen(12, 1022).people(true), 10);
         // at 10 cells 1 to 3 and 5 to 7 need two men, nothing else reaches so far
         check.due("fewest of two runs", seen(10, 0b0011101110).people(false), 2);
+        check.due("one man for the last three cells", seen(10, 0b1110000000).people(false), 1);
+        check.due("four for the last three cells", seen(10, 0b1110000000).people(true), 4);
+        // at 12 a child in 0 makes 1 to 3 dark, at 9 a man would be seen: three children for 1 to 9
+        check.due("three children", seen(12, 1022, 9, 0).people(false), 3);
         check.due("children are counted", seen(10, 2).people(false), 1);
         check.due("child and the last cell", seen(10, 2).people(true), 2);
     }
@@ -106,6 +116,8 @@ public final class SightsTest {
         check.due("cell 0 is to tell", seen(0, 0).next(), 10);
         // the same in cell 9: 0 tells all three apart
         check.due("cell 9 is to tell", seen(15, 0).next(), 0);
+        // man or child in cell 0, children or nobody in 1 and 2, or children in all three; and cell 9
+        check.due("a row of three cells was dark", seen(10, 14).next(), 6);
         // child or nobody in each cell: 6 shows cells 0 to 8 as they are, and so does 10
         check.due("children", seen(7, 0, 9, 0).next(), 6);
     }
