@@ -16,7 +16,7 @@ public final class FaceTest {
     private static final String[] CONSTANTS = {"UNKNOWN=-1", "OUTSIDE=-2", "STATE=-3", "FULL=-4", "NONE=-9"};
 
     public static void main(String[] args) throws IllegalAccessException {
-        Check check = new Check();
+        Check check = new Check("FaceTest");
         Class<?> face = ShadowCount.class;
         check.holds("public and final", Modifier.isPublic(face.getModifiers()) && Modifier.isFinal(face.getModifiers()));
         TreeSet<String> methods = new TreeSet<>();
@@ -43,7 +43,7 @@ public final class FaceTest {
         check.holds("one public constructor without parameters", constructors.length == 1
             && Modifier.isPublic(constructors[0].getModifiers()) && constructors[0].getParameterCount() == 0);
         checkOthers(check, face, names);
-        check.end("FaceTest");
+        check.end();
     }
 
     private static void checkOthers(Check check, Class<?> face, TreeSet<String> names) {

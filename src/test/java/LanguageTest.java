@@ -12,7 +12,7 @@ public final class LanguageTest {
         "\\b(hashCode|toString|nanoTime|currentTimeMillis|random)\\b", "\\bprotected\\b", "while \\(true\\)", "for \\(;;\\)"};
 
     public static void main(String[] args) throws IOException {
-        Check check = new Check();
+        Check check = new Check("LanguageTest");
         String source = Files.readString(Path.of(args[0]));
         String code = source.replaceAll("(?s)/\\*.*?\\*/", "").replaceAll("//[^\n]*", "").replaceAll("\"[^\"\n]*\"", "\"\"");
         for (String words : LEFT_OUT) {
@@ -23,7 +23,7 @@ public final class LanguageTest {
         check.holds("static fields are final", !statics.find());
         check.holds("no static block", !Pattern.compile("\\bstatic\\s*\\{").matcher(code).find());
         checkMethodLengths(check, code);
-        check.end("LanguageTest");
+        check.end();
     }
 
     /** Methods stand four or eight blanks deep and end with a brace as deep as they began. */
