@@ -87,6 +87,8 @@ public final class FaultTest {
         fault("GBm50Bm51Bm52Bm53Bm54Bm55Bm5", 27);
         fault("GBm50Bm51Bm52Bm53Bm54Bm55Bm4", 28);
         fault("GBm50Bm51Bm52Bm53Bm54Bm65Bm5", 28);
+        fault("GBm00Bm50Bm51Bm52Bm53Bm54Bm55Bm5", 31);
+        fault("GBm00Bm50Bm51Bm52Bm53Bm54Bm55Bm0", 32);
     }
 
     private static void eightBodies() {

@@ -19,9 +19,9 @@ public final class RefusalsTest {
 
     public static void main(String[] args) {
         RefusalsTest bare = new RefusalsTest("a new object", s -> { });
-        RefusalsTest rich = new RefusalsTest("a field with all sorts", RefusalsTest::makeRich);
-        RefusalsTest full = new RefusalsTest("a full field", RefusalsTest::makeFull);
-        RefusalsTest open = new RefusalsTest("a text that is not at its end", RefusalsTest::makeOpen);
+        RefusalsTest rich = new RefusalsTest("a field with all sorts", States::makeRich);
+        RefusalsTest full = new RefusalsTest("a full field", States::makeFull);
+        RefusalsTest open = new RefusalsTest("a text that is not at its end", States::makeOpen);
         check.test("a full field", RefusalsTest::fullIsFull);
         bare.refusalsOfNothing();
         open.refused("place", STATE, s -> s.place());
@@ -40,42 +40,9 @@ public final class RefusalsTest {
         check.end();
     }
 
-    /** Text, bodies, hills, cliffs, clouds, acts, sights and a slot, the text another place than the field. */
-    private static void makeRich(ShadowCount s) {
-        Check.write(s, "GBm00Bc31Bk22Bs53Ba64Bt85H0905H2312L21O4523O670b");
-        s.place();
-        s.sight(10, 14);
-        s.keep(0);
-        s.put(1, 9, 0);
-        s.move(2, 7, 2);
-        s.take(0);
-        s.sight(9, 2);
-        Check.rewrite(s, "GBk42H1122L3aO0123");
-    }
-
-    private static void makeOpen(ShadowCount s) {
-        makeRich(s);
-        Check.rewrite(s, "GBt95Bm1");
-    }
-
-    /** As much of everything as there may be. */
-    private static void makeFull(ShadowCount s) {
-        Check.write(s, "GBm00Bc11Bk22Bs33Ba44Bt55Bm65Bc75H0905H0302H4915L06L5fO1123O4423O6623O8823");
-        s.place();
-        for (int i = 0; i < 6; i++) {
-            s.sight(8 + i % 2, 0);
-        }
-        s.keep(0);
-        for (int i = 0; i < 20; i++) {
-            s.move(i % 8, i % 10, 4 - i / 10);
-        }
-        s.keep(1);
-        Check.write(s, "L11L22L33L44L55L66");
-    }
-
     private static void fullIsFull() {
         ShadowCount s = new ShadowCount();
-        makeFull(s);
+        States.makeFull(s);
         int[] due = {92, 8, 3, 9, 6, 16, 4, 0b100001};
         for (int what = 0; what < due.length; what++) {
             check.due("count(" + what + ")", s.count(what), due[what]);

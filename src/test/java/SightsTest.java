@@ -43,6 +43,7 @@ public final class SightsTest {
         check.test("sure: man or child, somebody", SightsTest::somebody);
         check.test("sure: NONE", SightsTest::sureOfNoFit);
         check.test("next: most unlike rows", SightsTest::mostUnlike);
+        check.test("next: a row without dark cells is one, too", SightsTest::nothingDarkIsARow);
         check.test("next: of like ones the first", SightsTest::firstOfLikeOnes);
         check.test("next: only one fit", SightsTest::nextOfOneFit);
         check.test("next: NONE", SightsTest::nextOfNoFit);
@@ -352,6 +353,13 @@ public final class SightsTest {
         next(7, 0, 511);
         next(9, 0, 127);
         next(13, 6, 5);
+    }
+
+    private static void nothingDarkIsARow() {
+        // the only fit, a child in cell 0, shows nothing up to 9
+        next(0, 3, 0, 10, 2);
+        // 9 shows eight rows, one of them without dark cells, 10 eight others
+        next(9, 6, 3);
     }
 
     private static void firstOfLikeOnes() {
