@@ -215,8 +215,8 @@ public final class ShadowCount {
         }
         int people = field.bodies.allHeads();
         int nearest = 0;
-        int leastGap = Integer.MAX_VALUE;
-        for (int minute = 0; minute < MINUTES; minute++) {
+        int leastGap = Math.abs(countByRule(hill, 0) - people);
+        for (int minute = 1; minute < MINUTES; minute++) {
             int gap = Math.abs(countByRule(hill, minute) - people);
             if (gap < leastGap) {
                 leastGap = gap;

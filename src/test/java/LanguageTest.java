@@ -1,6 +1,8 @@
 import java.io.IOException;
 import java.nio.file.Files;
 import java.nio.file.Path;
+import java.util.HashSet;
+import java.util.Set;
 import java.util.regex.Matcher;
 import java.util.regex.Pattern;
 
@@ -23,7 +25,35 @@ public final class LanguageTest {
         check.holds("static fields are final", !statics.find());
         check.holds("no static block", !Pattern.compile("\\bstatic\\s*\\{").matcher(code).find());
         checkMethodLengths(check, code);
+        checkLibrary(check, code);
+        checkWhereObjectsAreMade(check, code);
         check.end();
+    }
+
+    /** Rule 4: of names that begin with a capital only the file's own classes, and of the library what is used here. */
+    private static void checkLibrary(Check check, String code) {
+        Set<String> known = new HashSet<>(Set.of("String", "Math", "System"));
+        Matcher classes = Pattern.compile("\\bclass (\\w+)").matcher(code);
+        while (classes.find()) {
+            known.add(classes.group(1));
+        }
+        Matcher names = Pattern.compile("\\b[A-Z]\\w*[a-z]\\w*").matcher(code);
+        while (names.find()) {
+            check.holds(names.group() + " is known", known.contains(names.group()));
+        }
+        Matcher calls = Pattern.compile("\\b(Math|System)\\.\\w+").matcher(code);
+        while (calls.find()) {
+            check.holds(calls.group() + " stands in rule 4", calls.group().matches("Math\\.(abs|max|min)|System\\.arraycopy"));
+        }
+    }
+
+    /** All calls of a run live in one room: what a call needs is made with the object, in a field's initialiser. */
+    private static void checkWhereObjectsAreMade(Check check, String code) {
+        for (String line : code.split("\n")) {
+            if (Pattern.compile("\\bnew\\b").matcher(line).find()) {
+                check.holds("made with the object: " + line.trim(), line.matches(" +(private )?final [\\w\\[\\]]+ \\w+ = .*;"));
+            }
+        }
     }
 
     /** Methods stand four or eight blanks deep and end with a brace as deep as they began. */
